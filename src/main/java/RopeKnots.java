@@ -73,7 +73,7 @@ public final class RopeKnots {
         if (now.rope.kindAt(place) == kind && now.rope.tightAt(place) == tight) {
             return NONE;
         }
-        history.record(now);
+        history.remember(now);
         now.rope.put(place, kind, tight);
         return readRuns().size;
     }
@@ -87,7 +87,7 @@ public final class RopeKnots {
         if (kind == 0) {
             return NONE;
         }
-        history.record(now);
+        history.remember(now);
         now.rope.put(place, 0, 0);
         return kind;
     }
@@ -101,7 +101,7 @@ public final class RopeKnots {
         if (slips == 0) {
             return NONE;
         }
-        history.record(now);
+        history.remember(now);
         now.rope.copyFrom(trial);
         now.pulls++;
         now.slips += slips;
@@ -114,7 +114,7 @@ public final class RopeKnots {
         if (fault != NONE) {
             return FIRST_FAULT - fault;
         }
-        history.record(now);
+        history.remember(now);
         text.layOn(now.rope);
         return now.rope.knotCount();
     }
@@ -138,7 +138,7 @@ public final class RopeKnots {
         if (now.words.size >= MOST_WORDS) {
             return FULL;
         }
-        history.record(now);
+        history.remember(now);
         return now.words.add(trial, text.length, rings);
     }
 
@@ -154,7 +154,7 @@ public final class RopeKnots {
         if (previous == rings) {
             return NONE;
         }
-        history.record(now);
+        history.remember(now);
         now.words.changeRings(word, rings);
         return previous;
     }
@@ -165,7 +165,7 @@ public final class RopeKnots {
         if (runs.wordRuns() == 0) {
             return NONE;
         }
-        history.record(now);
+        history.remember(now);
         now.ringings++;
         int due = rightAnswer(runs);
         int right = 0;
@@ -189,7 +189,7 @@ public final class RopeKnots {
         if (times == 0) {
             return NONE;
         }
-        history.record(now);
+        history.remember(now);
         now.learners.hear(learner, word, -times);
         return times;
     }
@@ -202,7 +202,7 @@ public final class RopeKnots {
         if (now.learners.timesHeard(learner, word) >= MOST_TOLD) {
             return FULL;
         }
-        history.record(now);
+        history.remember(now);
         now.learners.hear(learner, word, 1);
         return now.learners.timesHeard(learner, word);
     }
@@ -216,7 +216,7 @@ public final class RopeKnots {
         if (previous == value) {
             return NONE;
         }
-        history.record(now);
+        history.remember(now);
         now.learners.setting = value;
         return previous;
     }
@@ -274,7 +274,7 @@ public final class RopeKnots {
         if (!hasKept) {
             return NONE;
         }
-        history.record(now);
+        history.remember(now);
         now.copyFrom(kept);
         return now.rope.knotCount();
     }
@@ -1017,7 +1017,7 @@ public final class RopeKnots {
     private static final class History {
         private final State[] states;
         private int size;
-        /** Where the next state is recorded. */
+        /** Where the next state is remembered. */
         private int next;
 
         History() {
@@ -1029,8 +1029,8 @@ public final class RopeKnots {
             next = 0;
         }
 
-        /** Records a state, over the oldest one if the ring is full. */
-        void record(State state) {
+        /** Remembers a state, over the oldest one if the ring is full. */
+        void remember(State state) {
             if (!isWithin(next, 0, MOST_STATES - 1) || states[next] == null) {
                 return;
             }

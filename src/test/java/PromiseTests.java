@@ -1,3 +1,5 @@
+import java.util.Arrays;
+
 /** For each promise of the document: ordinary inputs, the edges that it names, wrong inputs. */
 public final class PromiseTests {
     private static final int UNKNOWN = -1;
@@ -232,6 +234,9 @@ public final class PromiseTests {
         due("lay again was recorded", x.count(11), 3);
         due("lay no knot", lay(x, "."), 0);
         rows("empty", kindsOf(x), "", '.');
+        lay(x, "1");
+        due("lay no knot over one at the top", lay(x, "..3"), 1);
+        rows("the top is empty", kindsOf(x), "..3", '.');
         due("lay 40", lay(x, "12345".repeat(8)), 40);
         due("tie keeps its tightness", x.knot(39, 1), 5);
         due("lay 40 with marks", lay(x, "1!".repeat(10) + "2".repeat(30)), 40);
@@ -272,6 +277,14 @@ public final class PromiseTests {
         due("a fault, also if it is full", teach(x, "0", 1), -100);
         due("rings, also if it is full", teach(x, "0", 0), BAD_VALUE);
         due("16 words", x.count(4), 16);
+        x.keep();
+        for (int left = 3; left >= 0; left--) {
+            due("undo", x.undo(), left);
+        }
+        due("12 words", x.count(4), 12);
+        x.restore();
+        due("full again", teach(x, "4", 1), FULL);
+        due("which records nothing", x.count(11), 1);
         RopeKnots two = new RopeKnots();
         teach(two, "12", 1);
         due("undone", two.undo(), 0);
@@ -509,23 +522,27 @@ public final class PromiseTests {
     }
 
     private static void promise15EveryActIsRecorded() {
-        RopeKnots x = taught("1.2");
-        x.set(1);
-        x.keep();
-        int[] before = digest(x);
-        String[] acts = {"tie", "untie", "pull", "layRope", "teach", "setRings", "ring", "tell", "set", "restore"};
+        String[] acts = {
+            "tie", "untie", "pull", "layRope", "teach", "setRings", "ring", "tell", "set", "forget", "restore"
+        };
         for (int act = 0; act < acts.length; act++) {
-            write(x, act == 3 ? "..." : "3");
-            check.holds(acts[act] + " is done", act(x, act) >= 0);
-            due(acts[act] + " was recorded", x.count(11), 4);
-            due(acts[act] + " is undone", x.undo(), 3);
-            check.holds(acts[act] + " is wholly undone", java.util.Arrays.equals(before, digest(x)));
+            RopeKnots x = taught("1.2");
+            x.tell(2, 0);
+            x.keep();
+            x.undo();
+            x.undo();
+            x.undo();
+            x.undo();
             x.restore();
+            int[] before = digest(x);
+            write(x, act == 3 ? "..." : "3");
+            due("states before " + acts[act], x.count(11), 1);
+            check.holds(acts[act] + " is done", act(x, act) >= 0);
+            due(acts[act] + " was recorded", x.count(11), 2);
+            check.holds(acts[act] + " is seen", act == 10 || !Arrays.equals(before, digest(x)));
+            due(acts[act] + " is undone", x.undo(), 1);
+            check.holds(acts[act] + " is wholly undone", Arrays.equals(before, digest(x)));
         }
-        x.tell(0, 0);
-        due("forget", x.forget(0, 0), 1);
-        x.undo();
-        due("forget is undone", x.heard(0, 0), 1);
     }
 
     private static int act(RopeKnots x, int act) {
@@ -548,6 +565,8 @@ public final class PromiseTests {
                 return x.tell(2, 1);
             case 8:
                 return x.set(5);
+            case 9:
+                return x.forget(2, 0);
             default:
                 return x.restore();
         }
@@ -567,6 +586,7 @@ public final class PromiseTests {
             all[at++] = x.word(word, 1);
             all[at++] = x.word(word, 3);
             all[at++] = x.heard(2, word);
+            all[at++] = x.word(word, 0);
         }
         all[at++] = x.learner(1, 2);
         all[at++] = x.learner(1, 3);
@@ -758,6 +778,12 @@ public final class PromiseTests {
             due("far run", x.nearest(far, 0), UNKNOWN);
             due("far what", x.nearest(0, far), BAD_VALUE);
         }
+        RopeKnots beside = new RopeKnots();
+        teach(beside, "12345", 1);
+        lay(beside, "1.345");
+        due("the next run does not count", beside.nearest(0, 1), 4);
+        lay(beside, "3.12345");
+        due("nor does the one above", beside.nearest(0, 1), 5);
         RopeKnots none = new RopeKnots();
         lay(none, "1");
         due("no word", none.nearest(0, 0), NONE);
@@ -855,6 +881,9 @@ public final class PromiseTests {
         due("right", x.reason(0), 0);
         due("learner 6", x.reason(6), UNKNOWN);
         due("learner -1", x.reason(-1), UNKNOWN);
+        lay(x, "2.1");
+        x.forget(5, 2);
+        due("the first run of all", x.reason(5), 100);
         lay(x, "3.33");
         due("no word", x.reason(0), NONE);
         due("learner first", x.reason(6), UNKNOWN);
@@ -962,11 +991,16 @@ public final class PromiseTests {
         due("now", x.allRightIn(), 0);
         x.forget(4, 0);
         due("one alone has forgotten", x.allRightIn(), 3);
+        x.ring();
+        x.ring();
+        x.ring();
+        x.forget(0, 0);
+        due("the first alone has forgotten", x.allRightIn(), 3);
         lay(x, "1.1.1.1.1.1.1");
         due("all at once", x.allRightIn(), 1);
         lay(x, "3");
         due("no word", x.allRightIn(), NONE);
-        due("it rings nothing", x.count(7), 3);
+        due("it rings nothing", x.count(7), 6);
     }
 
     private static void promise30Count() {
@@ -1018,5 +1052,20 @@ public final class PromiseTests {
         due("undone: slips", x.count(6), 2);
         due("undone: setting", x.count(10), 1);
         due("undone: heard", x.heard(5, 0), 4);
+        RopeKnots y = new RopeKnots();
+        teach(y, "123", 5);
+        y.keep();
+        y.undo();
+        teach(y, "54", 6);
+        y.restore();
+        int[] word = {3, 5, 0, 0, 1, 2, 3, 0, 0};
+        for (int what = 0; what < word.length; what++) {
+            due("restored: word 0 " + what, y.word(0, what), word[what]);
+        }
+        y.undo();
+        int[] before = {2, 6, 0, 0, 5, 4, 0, 0, 0};
+        for (int what = 0; what < before.length; what++) {
+            due("undone: word 0 " + what, y.word(0, what), before[what]);
+        }
     }
 }
