@@ -4,6 +4,7 @@ import java.util.Random;
 public final class ModelTests {
     private static final int RUNS = 3000;
     private static final int CALLS = 512;
+    private static final int LONGEST_TURN = 50;
 
     private final Check check = new Check("ModelTests");
     private final Random random;
@@ -35,7 +36,8 @@ public final class ModelTests {
 
     private void go() {
         while (calls < CALLS && !check.hasWrong()) {
-            int turn = random.nextInt(100);
+            // What is answered behind the last call is free, so the last turns are of one call.
+            int turn = calls + LONGEST_TURN > CALLS ? 16 + random.nextInt(84) : random.nextInt(100);
             if (turn < 12) {
                 teachSome();
             } else if (turn < 16) {
@@ -65,6 +67,11 @@ public final class ModelTests {
             default:
                 return least + random.nextInt(most - least + 1);
         }
+    }
+
+    /** Mostly the number of one of those that there are. */
+    private int nearOf(int size) {
+        return near(0, Math.max(0, size - 1));
     }
 
     private void type(char c) {
@@ -121,7 +128,7 @@ public final class ModelTests {
         int b = near(1, kinds);
         int c = near(1, 9);
         int learner = near(0, 5);
-        int word = near(0, 9);
+        int word = nearOf(model.count(4));
         switch (random.nextInt(14)) {
             case 0:
             case 1:
@@ -163,9 +170,9 @@ public final class ModelTests {
     }
 
     private void ask() {
-        int run = near(0, 6);
+        int run = nearOf(model.count(1));
         int learner = near(0, 5);
-        int word = near(0, 9);
+        int word = nearOf(model.count(4));
         int what = near(0, 3);
         switch (random.nextInt(14)) {
             case 0:

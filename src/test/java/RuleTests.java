@@ -21,12 +21,21 @@ public final class RuleTests {
         + " setRings(int,int) splits(int) splitsBack(int) teach(int) tell(int,int)"
         + " tie(int,int,int) type(char) undo() untie(int) word(int,int)";
     private static final String CONSTANTS = "BAD_VALUE FULL NONE NOT_POSSIBLE UNKNOWN";
-    /** What rules 2, 4, 6 and 13 rule out, as words of the source. */
+    /** What rules 1, 4, 6 and 13 rule out, as words of the source. */
     private static final String[] RULED_OUT = {
-        "throw", "throws", "try", "catch", "finally", "synchronized", "assert", "import", "package",
-        "protected", "instanceof", "volatile", "native", "Object", "System", "Thread", "Random",
-        "equals", "hashCode", "toString", "getClass", "lambda", "var"
+        "throw", "throws", "try", "catch", "finally", "synchronized", "assert", "package",
+        "protected", "volatile", "native", "Object", "Thread", "Random", "hashCode", "getClass"
     };
+    /** What rule 4 leaves of the library, where a class's own functions are called. */
+    private static final Set<String> LIBRARY =
+        Set.of("Math", "Integer", "Long", "System.arraycopy", "Arrays.copyOf", "Arrays.copyOfRange",
+            "Arrays.fill", "List.of");
+    private static final Set<String> IMPORTS =
+        Set.of("java.util.ArrayList", "java.util.Arrays", "java.util.Iterator", "java.util.List");
+    /** What rule 5 leaves of static fields, beside the constants of an enum. */
+    private static final Set<Class<?>> CONSTANT =
+        Set.of(int.class, long.class, boolean.class, char.class, String.class, int[].class,
+            long[].class, char[].class, byte[].class);
 
     private static final Check check = new Check("RuleTests");
 
@@ -81,15 +90,16 @@ public final class RuleTests {
         return method.getName() + "(" + String.join(",", types) + ")";
     }
 
-    /** Methods that are not public bear no name of a public one, and take few parameters. */
+    /** Private methods bear no name of a public one, and none takes many parameters. */
     private static void hidden(Class<?> owner, Set<String> names) {
         for (Method method : owner.getDeclaredMethods()) {
+            boolean isPrivate = Modifier.isPrivate(method.getModifiers());
             boolean ofFace = owner == RopeKnots.class && Modifier.isPublic(method.getModifiers());
-            if (!ofFace) {
+            if (isPrivate) {
                 check.holds(method + " has a name of its own", !names.contains(method.getName()));
-                if (owner == RopeKnots.class) {
-                    check.holds(method + " is private", Modifier.isPrivate(method.getModifiers()));
-                }
+            }
+            if (owner == RopeKnots.class && !ofFace) {
+                check.holds(method + " is private", isPrivate || method.isSynthetic());
             }
             check.holds(method + " takes at most seven", method.getParameterCount() <= 7);
         }
@@ -97,7 +107,7 @@ public final class RuleTests {
 
     private static void classesInside() {
         Class<?>[] inside = RopeKnots.class.getDeclaredClasses();
-        check.holds("at most some twelve classes", inside.length < 12);
+        check.holds("at most some twelve classes", inside.length <= 12);
         for (Class<?> one : inside) {
             int kind = one.getModifiers();
             check.holds(one + " is static", Modifier.isStatic(kind));
@@ -112,7 +122,8 @@ public final class RuleTests {
         for (Field field : owner.getDeclaredFields()) {
             if (Modifier.isStatic(field.getModifiers())) {
                 check.holds(field + " is final", Modifier.isFinal(field.getModifiers()));
-                check.holds(field + " is a number", field.getType() == int.class);
+                check.holds(field + " is a constant", CONSTANT.contains(field.getType())
+                    || owner.isEnum() || field.isSynthetic());
             } else {
                 own++;
             }
@@ -121,19 +132,37 @@ public final class RuleTests {
     }
 
     private static void source(String whole) {
-        check.holds("signs are 1 to 127", whole.chars().allMatch(c -> c >= 1 && c <= 127));
         String bare = whole.replaceAll("(?s)/\\*.*?\\*/", "").replaceAll("//[^\n]*", "");
+        check.holds("signs are 1 to 127", bare.chars().allMatch(c -> c >= 1 && c <= 127));
         for (String word : RULED_OUT) {
             check.holds("no " + word, !Pattern.compile("\\b" + word + "\\b").matcher(bare).find());
         }
-        check.holds("no lambda, no method reference", !bare.contains("->") && !bare.contains("::"));
+        String arrows = bare.replaceAll("(\\bcase\\b[^;{}>]*|\\bdefault) ->", "");
+        check.holds("no lambda, no method reference", !arrows.contains("->") && !arrows.contains("::"));
         check.holds("no static block", !Pattern.compile("static\\s*\\{").matcher(bare).find());
-        check.holds("no loop without a bound", !Pattern.compile("\\b(while|do)\\b|for \\(;;").matcher(bare).find());
-        Matcher library = Pattern.compile("\\b([A-Z][A-Za-z]*)\\.\\w+\\(").matcher(bare);
-        while (library.find()) {
-            check.holds("only Math is called, not " + library.group(), library.group(1).equals("Math"));
-        }
+        check.holds("no loop without a bound",
+            !Pattern.compile("while \\(true\\)|for \\([^;]*; *;").matcher(bare).find());
+        library(bare);
         methodLengths(bare);
+    }
+
+    private static void library(String bare) {
+        Matcher imported = Pattern.compile("\\bimport ([^;]*);").matcher(bare);
+        while (imported.find()) {
+            check.holds("rule 4 leaves " + imported.group(1), IMPORTS.contains(imported.group(1)));
+        }
+        Set<String> own = new TreeSet<>();
+        for (Class<?> inside : RopeKnots.class.getDeclaredClasses()) {
+            own.add(inside.getSimpleName());
+        }
+        Matcher called = Pattern.compile("\\b([A-Z][A-Za-z]*)\\.(\\w+)\\(").matcher(bare);
+        while (called.find()) {
+            String type = called.group(1);
+            String name = called.group(2);
+            boolean left = LIBRARY.contains(type) || LIBRARY.contains(type + "." + name);
+            check.holds("rule 4 leaves " + type + "." + name, left || own.contains(type));
+            check.holds("rule 4 leaves no " + name, !name.endsWith("Exact"));
+        }
     }
 
     private static void methodLengths(String bare) {
