@@ -12,7 +12,7 @@ import java.util.TreeSet;
 import java.util.regex.Matcher;
 import java.util.regex.Pattern;
 
-/** The rules of LANGUAGE.md that can be looked at from outside; the source's path is the argument. */
+/** The rules of LANGUAGE.md that can be looked at from outside; the project's folder is the argument. */
 public final class RuleTests {
     private static final String FACE =
         "allRightIn() clearText() count(int) fault(boolean,int) forget(int,int) heard(int,int)"
@@ -45,7 +45,8 @@ public final class RuleTests {
     public static void main(String[] args) throws IOException {
         face();
         classesInside();
-        source(Files.readString(Path.of(args.length > 0 ? args[0] : "src/main/java/RopeKnots.java")));
+        Path project = Path.of(args.length > 0 ? args[0] : ".");
+        source(Files.readString(project.resolve("src/main/java/RopeKnots.java")));
         neverThrows();
         check.finish();
     }
